@@ -62,6 +62,10 @@ public final class LandTest {
             check.due("goes as at first", x.goes(0, 1), WagonWays.NONE);
             check.due("lost as at first", x.lost(), n * (n - 1));
             check.due("clock as at first", x.count(4), 0);
+            check.due("none done as at first", x.count(5), 0);
+            check.due("none runs as at first", x.count(6), 0);
+            check.due("none stands as at first", x.yard(0, 0) + x.yard(1, 0), 0);
+            check.due("no duties as at first", x.crews(0), 0);
             closingsAreGone(x, n);
         }
         fillAll(x);
@@ -86,7 +90,9 @@ public final class LandTest {
         x.wagon(0, 1);
         x.wagon(1, 0);
         x.sorting(11);
-        x.pass(5);
+        x.pass(28);
+        x.wagon(0, 1);
+        x.pass(1);
         x.close(0, 0, 99);
         x.close(1, 0, 99);
         x.rest(40);
@@ -131,6 +137,13 @@ public final class LandTest {
         check.due("over three yards", x.far(0, 4), 4);
         check.due("the same both ways", x.far(4, 0), 4);
         check.due("to itself", x.far(3, 3), 0);
+        WagonWays three = new WagonWays();
+        three.land(3);
+        three.miles(1, 2, 99);
+        check.due("over the first", three.far(1, 2), 20);
+        three.land(3);
+        three.miles(0, 1, 99);
+        check.due("over the last", three.far(0, 1), 20);
         int[][] unknown = {{-1, 0}, {0, -1}, {5, 0}, {0, 5}, {LOW, LOW}, {HIGH, HIGH}};
         for (int[] u : unknown) {
             check.refused(x, "far unknown", () -> x.far(u[0], u[1]), WagonWays.UNKNOWN);

@@ -12,11 +12,13 @@ public final class NetsTest {
         costRefusals();
         net();
         netTies();
+        netDearButFew();
         netForgetsNothing();
         bound();
         empties();
         least();
         leastChoosesWell();
+        leastTakesBack();
         check.end();
     }
 
@@ -169,7 +171,17 @@ public final class NetsTest {
         x.load(0, 1, 1);
         x.load(0, 2, 1);
         // A makes one block alone, for B or C with the other one behind it, at like cost.
+        check.due("of like ones the least, cost", x.net(0), 50);
         check.due("of like ones the least", x.net(1), Math.min(bit(0, 1) | bit(1, 2), bit(0, 2) | bit(2, 1)));
+    }
+
+    private static void netDearButFew() {
+        WagonWays x = new WagonWays();
+        x.price(0, 0);
+        x.miles(2, 3, 99);
+        x.load(3, 2, 1);
+        check.due("least cost ahead of fewest blocks", x.net(0), 20);
+        check.due("two blocks", x.net(1), bit(3, 0) | bit(0, 2));
     }
 
     /** What is asked twice is the same; what it hangs on counts at once. */
@@ -275,5 +287,46 @@ public final class NetsTest {
         check.due("with a stay", x.least(), 10);
         x.empties(0, 1, 1);
         check.due("with one that is over later", x.least(), 4);
+    }
+
+    /** Three givers and three takers, where what was sent first is taken back in parts. */
+    private static void leastTakesBack() {
+        WagonWays x = new WagonWays();
+        x.land(6);
+        int[][] miles = {{0, 3, 1}, {0, 4, 2}, {1, 3, 2}, {1, 4, 10}, {1, 5, 20}, {2, 4, 3}, {2, 5, 30}};
+        for (int a = 0; a < 6; a++) {
+            for (int b = a + 1; b < 6; b++) {
+                x.miles(a, b, 99);
+            }
+        }
+        for (int[] m : miles) {
+            x.miles(m[0], m[1], m[2]);
+        }
+        int[] over = {3, 4, 5, -5, -4, -3};
+        for (int y = 0; y < 6; y++) {
+            x.empties(y, 1, over[y]);
+        }
+        // A 3, B 4, C 5 for D 5, E 4, F 3; the shortest: A-D 1, A-E 2, A-F 23, B-D 2, B-E 5, B-F 20, C-D 6, C-E 3, C-F 26.
+        int best = Integer.MAX_VALUE;
+        for (int ad = 0; ad <= 3; ad++) {
+            for (int ae = 0; ad + ae <= 3; ae++) {
+                for (int bd = 0; bd <= 4 && ad + bd <= 5; bd++) {
+                    for (int be = 0; bd + be <= 4 && ae + be <= 4; be++) {
+                        int af = 3 - ad - ae;
+                        int bf = 4 - bd - be;
+                        int cf = 3 - af - bf;
+                        int paid = ad + 2 * ae + 23 * af + 2 * bd + 5 * be + 20 * bf + 6 * (5 - ad - bd) + 3 * (4 - ae - be) + 26 * cf;
+                        best = cf >= 0 ? Math.min(best, paid) : best;
+                    }
+                }
+            }
+        }
+        check.due("over all choices", x.least(), best);
+        x.empties(1, 1, 0);
+        x.empties(1, 0, 4);
+        x.price(1, 0);
+        check.due("with a stay for nothing", x.least(), best);
+        x.price(1, 50);
+        check.due("with a dear stay", x.least(), best + 200);
     }
 }

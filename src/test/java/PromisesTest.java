@@ -147,6 +147,13 @@ public final class PromisesTest {
         x.load(2, 1, 1);
         // C's block for B would circle for D, for D must go on to B by D's: three; or B's for D, D's for C, C's for B.
         changeTells(x, "three", 0, 3, 2, 3, 1, 1);
+        WagonWays first = Check.withBlocks(3, "B>C:A", "B>C:A/1");
+        first.load(1, 0, 1);
+        changeTells(first, "for the first yard", 2, 1, 0, 2, -1);
+        first.load(1, 0, 0);
+        first.load(1, 2, 1);
+        first.load(2, 0, 1);
+        changeTells(first, "loads of the closed one alone", 2, 0, 2, 2, -1);
         // Of two blocks that do, the first stays.
         WagonWays stays = Check.withBlocks(3, "B>A:C", "B>A:C/9");
         stays.load(1, 2, 1);

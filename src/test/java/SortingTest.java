@@ -105,6 +105,7 @@ public final class SortingTest {
         for (int i = 0; i < 6; i++) {
             check.due("stands(3, 1, " + i + ")", x.stands(3, 1, i), want[2][i]);
         }
+        check.due("eight tracks", x.stands(8, 1, 0), 1);
         for (int i : new int[] {-1, 6, LOW, HIGH}) {
             check.refused(x, "stands unknown", () -> x.stands(2, 0, i), WagonWays.UNKNOWN);
             check.refused(x, "stands unknown ahead of outside", () -> x.stands(1, 9, i), WagonWays.UNKNOWN);

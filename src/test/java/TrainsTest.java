@@ -210,6 +210,27 @@ public final class TrainsTest {
         check.due("it ran with three", x.trainIs(0, 1), 3);
         check.due("it ran with two", x.trainIs(1, 1), 2);
         longestReadyFirst();
+        twoBlocks();
+    }
+
+    private static void twoBlocks() {
+        WagonWays x = Check.withBlocks(3, "A>B:B", "A>B:C");
+        for (int i = 0; i < 4; i++) {
+            x.wagon(0, 2);
+            x.wagon(0, 1);
+        }
+        x.train(1, 0, 127, 0, 4, 6);
+        x.pass(1);
+        // All four of block 1, then of block 0 the two of least numbers, which are 1 and 3.
+        for (int w = 0; w < 8; w++) {
+            check.due("taken " + w, x.wagonIs(w, 1), w == 5 || w == 7 ? -1 : 0);
+        }
+        check.due("of both blocks", x.trainIs(0, 1), 6);
+        x.pass(24);
+        check.due("the others a day later", x.trainIs(0, 1), 8);
+        x.pass(24);
+        check.due("without any", x.trainIs(0, 1), 8);
+        check.due("it runs all the same", x.trainIs(0, 0), 3);
     }
 
     private static void longestReadyFirst() {
