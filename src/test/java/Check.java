@@ -1,6 +1,12 @@
+import java.io.IOException;
+import java.nio.file.Files;
+import java.nio.file.Path;
+
 /** Counts and prints answers that are not as due. */
 final class Check {
     private final String name;
+    private String document = "";
+    private String sentence = "";
     private int asked = 0;
     private int wrong = 0;
 
@@ -8,11 +14,31 @@ final class Check {
         this.name = name;
     }
 
+    /** Takes the document, where it lies beside the project, so that quotes of it are held against it. */
+    void reads(String[] args) throws IOException {
+        Path path = Path.of(args.length > 0 ? args[0] : ".", "../shared/DOC.md");
+        document = Files.isReadable(path) ? Files.readString(path) : "";
+    }
+
+    /** The sentence of the document that the next answers are due by. */
+    void says(String quote) {
+        sentence = " (" + quote + ")";
+        isTrue("the document says it", document.isEmpty() || document.contains(quote));
+    }
+
     void due(String call, long got, long want) {
         asked++;
         if (got != want) {
             wrong++;
-            System.out.println(name + ": " + call + " answered " + got + ", due is " + want);
+            System.out.println(name + ": " + call + " answered " + got + ", due is " + want + sentence);
+        }
+    }
+
+    /** Two rows of answers, one by one. */
+    void alike(String what, long[] got, long[] want) {
+        due(what + ": how many answers", got.length, want.length);
+        for (int i = 0; i < Math.min(got.length, want.length); i++) {
+            due(what + ": answer " + i, got[i], want[i]);
         }
     }
 
@@ -36,7 +62,7 @@ final class Check {
 
     /** Writes a text on the page, eight letters a call: what the last call answered. */
     static int write(WagonWays x, String text) {
-        int answer = x.count(9);
+        int answer = text.isEmpty() ? x.count(9) : 0;
         for (int i = 0; i < text.length(); i += 8) {
             answer = x.letters(word(text.substring(i, Math.min(text.length(), i + 8))));
         }
@@ -64,7 +90,8 @@ final class Check {
         WagonWays x = new WagonWays();
         x.land(yards);
         for (String text : texts) {
-            if (block(x, text) < 0) {
+            write(x, text);
+            if (x.block() < 0) {
                 throw new IllegalStateException(text);
             }
         }

@@ -1,6 +1,9 @@
 import java.util.Random;
 
-/** Long runs of calls, answer by answer, against Plain. The seeds are fixed, so that each run is the same. */
+/**
+ * Long runs of calls, answer by answer, against Plain. The seeds are fixed, so that each run is the same.
+ * What to ask is drawn by what Plain tells, so that an object is used for fewer than 512 calls.
+ */
 public final class PlainTest {
     private static final int CALLS = 40;
     private static final Check check = new Check("PlainTest");
@@ -108,7 +111,7 @@ public final class PlainTest {
     /** Few kinds of miles and loads, so that many nets are of like cost. */
     private void runNets() {
         begin(2, 4);
-        int n = x.count(0);
+        int n = plain.count(0);
         int kinds = 1 + random.nextInt(3);
         int handling = 5 * random.nextInt(5);
         same("price(0, " + handling + ")", x.price(0, handling), plain.price(0, handling));
@@ -129,7 +132,7 @@ public final class PlainTest {
 
     private void runEmpties() {
         begin(2, 8);
-        int n = x.count(0);
+        int n = plain.count(0);
         int most = 1 + random.nextInt(30);
         int stay = random.nextInt(100);
         same("price(1, " + stay + ")", x.price(1, stay), plain.price(1, stay));
@@ -148,16 +151,16 @@ public final class PlainTest {
 
     private void runClosings() {
         begin(3, 7);
-        int n = x.count(0);
+        int n = plain.count(0);
         writeBlocks(5 + random.nextInt(14));
         for (int i = 0; i < 1 + random.nextInt(3); i++) {
             callNets(26);
-            for (int c = 0; c < n && x.count(10) < 20; c++) {
+            for (int c = 0; c < n && plain.count(10) < 20; c++) {
                 same("change(" + c + ", 0)", x.change(c, 0), plain.change(c, 0));
             }
         }
         int c = random.nextInt(n);
-        for (int b = 0; b <= x.count(1) && b < 20; b++) {
+        for (int b = 0; b <= plain.count(1) && b < 20; b++) {
             same("change(" + c + ", " + (10 + b) + ")", x.change(c, 10 + b), plain.change(c, 10 + b));
         }
     }
@@ -188,11 +191,11 @@ public final class PlainTest {
     }
 
     private int yard() {
-        return from(0, x.count(0) - 1);
+        return from(0, plain.count(0) - 1);
     }
 
     private String text() {
-        int n = x.count(0);
+        int n = plain.count(0);
         StringBuilder text = new StringBuilder();
         int a = random.nextInt(n);
         int b = (a + 1 + random.nextInt(n - 1)) % n;
@@ -223,7 +226,7 @@ public final class PlainTest {
         }
         same("good() of " + text, x.good(), plain.good());
         same("block() of " + text, x.block(), plain.block());
-        if (x.count(9) > 0 && random.nextInt(3) > 0) {
+        if (plain.count(9) > 0 && random.nextInt(3) > 0) {
             same("blank()", x.blank(), plain.blank());
         }
     }
@@ -251,7 +254,7 @@ public final class PlainTest {
             case 5: same("good()", x.good(), plain.good()); break;
             case 6: writeBlock(); break;
             case 7: {
-                int k = from(0, x.count(1) - 1);
+                int k = from(0, plain.count(1) - 1);
                 int what = from(0, 3);
                 same("about(" + k + ", " + what + ")", x.about(k, what), plain.about(k, what));
                 break;
@@ -267,20 +270,20 @@ public final class PlainTest {
     }
 
     private int alike(int block) {
-        for (int i = 0; i < 20 && block >= 0 && block < x.count(1); i++) {
-            int other = random.nextInt(x.count(1));
-            if (x.about(other, 0) == x.about(block, 0) && x.about(other, 1) == x.about(block, 1)) {
+        for (int i = 0; i < 20 && block >= 0 && block < plain.count(1); i++) {
+            int other = random.nextInt(plain.count(1));
+            if (plain.about(other, 0) == plain.about(block, 0) && plain.about(other, 1) == plain.about(block, 1)) {
                 return other;
             }
         }
-        return from(-1, x.count(1) - 1);
+        return from(-1, plain.count(1) - 1);
     }
 
     private void callTrains(int call) {
         int y = yard();
         switch (call) {
             case 11: {
-                int one = from(0, x.count(1) - 1);
+                int one = from(0, plain.count(1) - 1);
                 int two = random.nextInt(3) == 0 ? alike(one) : -1;
                 int days = random.nextInt(4) == 0 ? 127 : from(1, 127);
                 int hour = from(0, 23);
@@ -300,13 +303,13 @@ public final class PlainTest {
             }
             case 15: { int h = random.nextBoolean() ? from(1, 30) : from(1, 200); same("pass(" + h + ")", x.pass(h), plain.pass(h)); break; }
             case 16: {
-                int w = from(0, x.count(3) - 1);
+                int w = from(0, plain.count(3) - 1);
                 int what = from(0, 5);
                 same("wagonIs(" + w + ", " + what + ")", x.wagonIs(w, what), plain.wagonIs(w, what));
                 break;
             }
             case 17: {
-                int t = from(0, x.count(2) - 1);
+                int t = from(0, plain.count(2) - 1);
                 int what = from(0, 3);
                 same("trainIs(" + t + ", " + what + ")", x.trainIs(t, what), plain.trainIs(t, what));
                 break;
@@ -318,7 +321,7 @@ public final class PlainTest {
     }
 
     private void callSorting(int call) {
-        int i = from(0, x.count(7) - 1);
+        int i = from(0, plain.count(7) - 1);
         int tracks = from(2, 8);
         switch (call) {
             case 21: if (random.nextInt(6) == 0) same("drive()", x.drive(), plain.drive()); break;
@@ -331,7 +334,7 @@ public final class PlainTest {
 
     private long anyNet() {
         long net = 0;
-        int n = x.count(0);
+        int n = plain.count(0);
         for (int a = 0; a < n; a++) {
             for (int b = 0; b < n; b++) {
                 net |= a != b && random.nextInt(n) < 2 ? 1L << 8 * a + b : 0;
@@ -372,7 +375,7 @@ public final class PlainTest {
             case 36: { int p = from(1, 999); same("promise(" + p + ")", x.promise(p), plain.promise(p)); break; }
             case 37: {
                 int c = yard();
-                int what = random.nextInt(3) > 0 ? from(10, 9 + Math.max(1, x.count(1))) : from(0, 0);
+                int what = random.nextInt(3) > 0 ? from(10, 9 + Math.max(1, plain.count(1))) : from(0, 0);
                 same("change(" + c + ", " + what + ")", x.change(c, what), plain.change(c, what));
                 break;
             }
