@@ -139,7 +139,7 @@ public final class LandBoundsTest {
     }
 
     private static void lettersByPlaces() {
-        check.says("Letters come behind THE PAGE, up to eight, told by their codes in the bytes of w, the lowest byte first, until a byte that is 0");
+        check.says("Letters come behind THE PAGE, up to eight, told by their codes in the bytes of w, the lowest byte first, until a byte that is 0: how many THE PAGE has.");
         for (int place = 0; place < 8; place++) {
             WagonWays x = new WagonWays();
             check.due("code 1 at " + place, x.letters(wordWith(place, 1)), 8);

@@ -25,6 +25,7 @@ public final class NetsBoundsTest {
         leastByWeeks();
         leastByShortestWay();
         leastGreatest();
+        leastAllOverOrWanted();
         check.end();
     }
 
@@ -471,5 +472,34 @@ public final class NetsBoundsTest {
             most.empties(a, a < 4 ? 0 : 2, a < 4 ? 50 : -50);
         }
         check.due("the dearest", most.least(), 200 * 297);
+    }
+
+    /** Every yard in every week: all over, all wanted, all but one over, all but one wanted. */
+    private static void leastAllOverOrWanted() {
+        for (int n = 2; n <= 8; n++) {
+            WagonWays x = land(n);
+            fill(x, n, 50);
+            check.due("all over", x.least(), 0);
+            x.empties(n - 1, 2, -50);
+            check.due("all over but one", x.least(), 250);
+            fill(x, n, -50);
+            check.due("all wanted", x.least(), NONE);
+            fill(x, n, -1);
+            x.empties(0, 0, 50);
+            // The others of week 0 by 10, the yard itself by 5 and 10, the others by 15 and 20.
+            check.due("all wanted but one", x.least(), (n - 1) * 10 + 15 + (n - 1) * 35);
+            x.empties(0, 0, 3 * n - 1);
+            check.due("just enough for all", x.least(), (n - 1) * 45 + 15);
+            x.empties(0, 0, 3 * n - 2);
+            check.due("one too few for all", x.least(), NONE);
+        }
+    }
+
+    private static void fill(WagonWays x, int n, int v) {
+        for (int y = 0; y < n; y++) {
+            for (int week = 0; week < 3; week++) {
+                x.empties(y, week, v);
+            }
+        }
     }
 }

@@ -18,6 +18,7 @@ public final class TrainsBoundsTest {
         sortingLeavesWhatStands();
         clockGoesRound();
         comesInThenLeaves();
+        twoComeInAtOnce();
         doneAtItsGoal();
         trainsByNumber();
         firstBlockThenSecond();
@@ -242,6 +243,11 @@ public final class TrainsBoundsTest {
         // The last hours of weeks are 167, 335, .. 1847; the first ones 0, 168, .. 1848.
         check.due("all last hours", x.trainIs(0, 0), 11);
         check.due("all first hours", x.trainIs(1, 0), 12);
+        check.says("Then THE CLOCK is one more.");
+        WagonWays y = new WagonWays();
+        for (int hour = 1; hour <= 170; hour++) {
+            check.due("pass(1)", y.pass(1), hour);
+        }
     }
 
     private static void comesInThenLeaves() {
@@ -267,6 +273,40 @@ public final class TrainsBoundsTest {
         y.pass(6);
         check.due("stands", y.wagonIs(0, 0), 1);
         check.due("ready later", y.wagonIs(0, 2), 6);
+    }
+
+    private static void twoComeInAtOnce() {
+        check.says("TRAINS that come in at THE CLOCK (by number; of one number the one that left first): their wagons stand at the YARD");
+        WagonWays x = Check.withBlocks(4, "A>C:D", "B>C:D", "C>D:D");
+        // The train of the greater number left first; both come in at 9, and all wagons are ready at 11.
+        x.train(1, NONE, 1, 4, 5, 12);
+        x.train(0, NONE, 1, 0, 9, 12);
+        x.train(2, NONE, 1, 10, 1, 12);
+        x.train(2, NONE, 1, 11, 20, 3);
+        for (int w = 0; w < 4; w++) {
+            x.wagon(w % 2, 3);
+        }
+        x.pass(9);
+        check.due("on the way", x.trainIs(0, 3) + x.trainIs(1, 3), 2);
+        x.pass(1);
+        check.due("in", x.yard(2, 0), 4);
+        check.due("on the way no more", x.trainIs(0, 3) + x.trainIs(1, 3), 0);
+        x.pass(2);
+        check.due("an hour too early", x.trainIs(2, 1), 0);
+        for (int w = 0; w < 4; w++) {
+            check.due("alike, by numbers of wagons", x.wagonIs(w, 1), w < 3 ? 3 : NONE);
+        }
+        // Two runnings of one train: the one that left first comes in first, a day ahead of the other.
+        WagonWays y = pair();
+        y.train(0, NONE, EVERY_DAY, 0, 48, 1);
+        y.wagon(0, 1);
+        y.wagon(0, 1);
+        passTo(y, 49);
+        check.due("the first is in", y.wagonIs(0, 4), 1);
+        check.due("the second is not", y.wagonIs(1, 1), 0);
+        passTo(y, 73);
+        check.due("the second came in a day later", y.wagonIs(1, 2), 72);
+        check.due("is done", y.wagonIs(1, 4), 1);
     }
 
     private static void doneAtItsGoal() {
