@@ -126,6 +126,8 @@ public final class ToldBoundsTest {
     }
 
     private static void digestOfSome() {
+        check.says("n; MILES of a below b, by a, then b; of each BLOCK what about() tells for 0 to 3; of each TRAIN what "
+            + "trainIs() tells for 0 to 3; of each WAGON what wagonIs() tells for 0 to 5; THE CLOCK; THE ROW; of all a, d LOADS");
         WagonWays x = Scenes.busy();
         ToldBoundsTest due = new ToldBoundsTest();
         due.then(4, 7, 10, 41, 23, 10, 10).blocksTrainsWagons(x).then(66, 5, 3, 9, 3, 1, 0, 9);
